@@ -37,10 +37,10 @@ public final class SubjectNet {
     private Net now;
 
     public SubjectNet() {
-        told = new Row();
         text = new Text();
-        guide = new Guide();
-        acts = new Acts(guide, told);
+        acts = new Acts();
+        told = acts.told;
+        guide = acts.guide;
         past = new Past();
         trial = new Net();
         kept = new Net[KEPT];
@@ -1201,13 +1201,8 @@ public final class SubjectNet {
 
     /** The changes, each with its answer; one that answers below 0 has changed nothing but the ROW. */
     private static final class Acts {
-        private final Guide guide;
-        private final Row told;
-
-        Acts(Guide guide, Row told) {
-            this.guide = guide;
-            this.told = told;
-        }
+        final Guide guide = new Guide();
+        final Row told = new Row();
 
         int link(Net net, int x, int y) {
             if (!net.hasPair(x, y)) {

@@ -7,6 +7,14 @@ public final class Promises {
     }
 
     public static void main(String[] args) {
+        for (char tail : "\u0000a0>,*+t".toCharArray()) {
+            Check.tails(tail);
+            all();
+        }
+        Check.finish("Promises");
+    }
+
+    private static void all() {
         p1ANewObject();
         p2Sign();
         p3End();
@@ -33,6 +41,7 @@ public final class Promises {
         p21Tops();
         p22Needless();
         p23Chains();
+        p23ChainsOfManyShapes();
         p24Apart();
         p25Posts();
         p26Unposts();
@@ -46,6 +55,7 @@ public final class Promises {
         p32Day();
         p32WrongTexts();
         p33Undo();
+        p33UndoOfEachKind();
         p33WhatIsNotUndone();
         p34Years();
         p35Keep();
@@ -53,7 +63,6 @@ public final class Promises {
         p37Count();
         p38Row();
         theRowStaysWithAnswersBelow0();
-        Check.finish("Promises");
     }
 
     /** a > b, c; b, c > d; d > e; f apart; beside it a > e. */
@@ -440,6 +449,10 @@ public final class Promises {
     }
 
     private static void p16Ways() {
+        SubjectNet back = Check.terms(3);
+        Check.net(back, "c>b,b>a,c>a");
+        Check.due("ways to term 0", back.ways(2, 0), 3);
+        Check.dueRow("ways to term 0", back, 2);
         SubjectNet net = diamond();
         Check.due("ways(0, 4)", net.ways(0, 4), 4);
         Check.dueRow("ways(0, 4)", net, 3);
@@ -534,6 +547,12 @@ public final class Promises {
             Check.due("depth(" + t + ")", net.depth(t), due[t][0]);
             Check.dueRow("depth(" + t + ")", net, due[t][1]);
         }
+        SubjectNet back = Check.terms(3);
+        Check.net(back, "c>b,b>a,c>a");
+        Check.due("depth of term 0", back.depth(0), 2);
+        Check.dueRow("depth of term 0", back, 0);
+        Check.due("depth over term 0", back.depth(2), 0);
+        Check.dueRow("depth over term 0", back, 2);
         Check.due("depth(6)", net.depth(6), -1);
         Check.due("depth(-1)", net.depth(-1), -1);
         Check.due("depth(32)", net.depth(32), -1);
@@ -563,6 +582,10 @@ public final class Promises {
         Check.due("needless: more", net.needless(), 4);
         Check.dueRow("needless: more", net, 3, 4, 204, 502);
         Check.due("needless: a question", net.count(2), 10);
+        SubjectNet back = Check.terms(3);
+        Check.net(back, "c>b,b>a,c>a");
+        Check.due("needless: to term 0", back.needless(), 1);
+        Check.dueRow("needless: to term 0", back, 200);
         SubjectNet none = Check.terms(2);
         none.links(1, 0);
         none.tops();
@@ -590,6 +613,9 @@ public final class Promises {
         SubjectNet loose = Check.terms(3);
         Check.due("chains: loose ones", loose.chains(), 3);
         Check.dueRow("chains: loose ones", loose, 1);
+        SubjectNet one = Check.terms(1);
+        Check.due("chains: one term", one.chains(), 1);
+        Check.dueRow("chains: one term", one, 1);
         SubjectNet cross = Check.terms(5);
         Check.net(cross, "a>c,b>c,c>d,c>e");
         Check.due("chains: over c two can pass", cross.chains(), 2);
@@ -601,6 +627,24 @@ public final class Promises {
         SubjectNet comb = Check.terms(8);
         Check.net(comb, "a>e,a>f,b>e,b>g,c>f,c>h,d>e");
         Check.due("chains: over several changes", comb.chains(), 4);
+    }
+
+    /** The fewest CHAINS are as many as the most TERMS of which none is below another: apart() tells those. */
+    private static void p23ChainsOfManyShapes() {
+        for (int shape = 0; shape < 25; shape++) {
+            SubjectNet net = Check.terms(7);
+            int[] drawn = draws(1000 + shape, 24);
+            for (int i = 0; i < 24; i += 2) {
+                net.links(drawn[i] % 7, drawn[i + 1] % 7);
+            }
+            int most = 0;
+            for (int set = 0; set < 128; set++) {
+                if (net.apart(set) == 1) {
+                    most = Math.max(most, Integer.bitCount(set));
+                }
+            }
+            Check.due("chains of shape " + shape, net.chains(), most);
+        }
     }
 
     private static void p24Apart() {
@@ -697,6 +741,16 @@ public final class Promises {
         Check.due("search: nothing", Check.search(net, "b&d"), 0);
         Check.dueRow("search: nothing", net);
         Check.due("search: a question", net.count(4), 7);
+        net.posts(0, 3);
+        Check.due("search: item 0", Check.search(net, "d"), 3);
+        Check.dueRow("search: item 0", net, 0, 1, 39);
+        net.unposts(0, 3);
+        net.links(3, 0);
+        net.posts(8, 0);
+        Check.due("search: term 0 is below", Check.search(net, "d*-d"), 3);
+        Check.dueRow("search: term 0 is below", net, 2, 5, 8);
+        net.unposts(8, 0);
+        net.unlinks(3, 0);
         Check.due("search: long", Check.search(net, "a+a+a+a+a+a+a+a+a+a+a+a+a+a+a+a+a+a+a+a"
             + "+a+a+a+a+a+a+a+a+a+a+a+a+a+a+a+a+a+a+d*"), 3);
     }
@@ -739,12 +793,14 @@ public final class Promises {
         net.posts(3, 3);
         net.posts(4, 3);
         net.posts(4, 2);
+        net.posts(9, 2);
         Check.due("goes(3, 1)", net.goes(3, 1), 5);
         Check.due("goes(3, 1): terms", net.count(1), 55);
         Check.due("goes(3, 1): b > e", net.kin(1, 0), 16);
         Check.due("goes(3, 1): c > e", net.kin(2, 0), 16);
         Check.due("goes(3, 1): links", net.count(2), 5);
-        Check.due("goes(3, 1): items", net.count(4), 4);
+        Check.due("goes(3, 1): items", net.count(4), 5);
+        Check.due("goes(3, 1): own items stay", net.posted(9), 4);
         Check.due("goes(3, 1): posted(3)", net.posted(3), 6);
         Check.due("goes(3, 1): posted(4)", net.posted(4), 6);
         Check.due("goes(3, 1): labels", net.count(3), 5);
@@ -752,7 +808,7 @@ public final class Promises {
         Check.dueOrder("goes(3, 1)", net, 0, 1, 2, 4, 5);
         Check.due("goes(1, 0)", net.goes(1, 0), 4);
         Check.due("goes(1, 0): links", net.count(2), 3);
-        Check.due("goes(1, 0): items", net.count(4), 2);
+        Check.due("goes(1, 0): items", net.count(4), 3);
         Check.due("goes(2, 1): there already", net.goes(2, 1), 3);
         Check.due("goes(2, 1): links", net.count(2), 1);
         Check.due("goes(2, 1): items of the heir", net.posted(3), 1);
@@ -773,6 +829,7 @@ public final class Promises {
         net.posts(1, 1);
         net.posts(1, 2);
         net.posts(2, 2);
+        net.posts(8, 1);
         Check.due("merges(0, 3)", net.merges(0, 3), -4);
         Check.dueRow("merges(0, 3)", net, 0, 1, 3);
         Check.due("merges(3, 0)", net.merges(3, 0), -4);
@@ -787,7 +844,8 @@ public final class Promises {
         Check.due("merges(1, 2)", net.merges(1, 2), 5);
         Check.due("merges(1, 2): terms", net.count(1), 59);
         Check.due("merges(1, 2): links", net.count(2), 4);
-        Check.due("merges(1, 2): items", net.count(4), 2);
+        Check.due("merges(1, 2): items", net.count(4), 3);
+        Check.due("merges(1, 2): own items stay", net.posted(8), 2);
         Check.due("merges(1, 2): label", Check.named(net, "c"), 1);
         Check.due("merges(1, 2): labels stay", net.count(3), 6);
         Check.due("merges(3, 1): straight from y to x", net.merges(3, 1), 4);
@@ -933,6 +991,60 @@ public final class Promises {
         Check.due("undo net as one: links", big.count(2), 0);
     }
 
+    /** Each kind of change alone behind a question that is not undone, a refused one, and an undone one. */
+    private static void p33UndoOfEachKind() {
+        for (int kind = 0; kind < 11; kind++) {
+            SubjectNet net = diamond();
+            net.posts(5, 4);
+            net.posts(6, 3);
+            net.unlinks(0, 0);
+            net.unposts(5, 4);
+            net.undo();
+            String was = told(net);
+            net.posts(7, 0);
+            String then = told(net);
+            change(net, kind);
+            Check.due("undo of kind " + kind, told(net).equals(then), false);
+            Check.due("undo of kind " + kind + ": can be", net.count(5), 8);
+            Check.due("undo of kind " + kind + ": left", net.undo(), 7);
+            Check.due("undo of kind " + kind + ": as it was", told(net).equals(then), true);
+            net.undo();
+            Check.due("undo of kind " + kind + ": once more", told(net).equals(was), true);
+        }
+    }
+
+    private static void change(SubjectNet net, int kind) {
+        switch (kind) {
+            case 0: Check.term(net, "w"); break;
+            case 1: Check.label(net, "w", 1); break;
+            case 2: net.links(5, 0); break;
+            case 3: net.unlinks(0, 1); break;
+            case 4: Check.net(net, "f>a"); break;
+            case 5: net.posts(8, 2); break;
+            case 6: net.unposts(5, 4); break;
+            case 7: net.goes(3, 1); break;
+            case 8: net.merges(1, 2); break;
+            case 9: net.thins(); break;
+            default: Check.day(net, "l0500g031"); break;
+        }
+    }
+
+    /** All that 1. of the document tells of, but items above 8, as a text. */
+    private static String told(SubjectNet net) {
+        StringBuilder all = new StringBuilder();
+        for (int t = 0; t < 7; t++) {
+            all.append(Check.placed(net, t)).append(' ').append(net.kin(t, 0)).append(' ');
+            int labels = net.labels(t);
+            for (int i = 0; i < labels; i++) {
+                all.append(net.row(i)).append(',');
+            }
+        }
+        for (int item = 0; item < 9; item++) {
+            all.append(' ').append(net.posted(item));
+        }
+        return all.toString();
+    }
+
     private static void p33WhatIsNotUndone() {
         SubjectNet net = Check.terms(2);
         net.tops();
@@ -959,6 +1071,13 @@ public final class Promises {
         Check.due("undo: a change behind an undone one", net.undo(), 0);
         Check.due("undo: a change behind an undone one, links", net.count(2), 0);
         Check.dueOrder("undo: a change behind an undone one, order", net, 0, 1);
+        net.posts(1, 0);
+        net.undo();
+        net.posts(2, 0);
+        net.posts(3, 0);
+        Check.due("undo: two changes behind an undone one", net.undo(), 1);
+        Check.due("undo: the first of them stays", net.posted(2), 1);
+        Check.due("undo: the second of them went", net.posted(3), 0);
     }
 
     /** The draws as the document tells them, by longs. */

@@ -4,6 +4,7 @@ import java.util.NoSuchElementException;
 final class Check {
     private static int wrong = 0;
     private static int asked = 0;
+    private static char tail = 0;
 
     private Check() {
     }
@@ -73,13 +74,18 @@ final class Check {
         }
     }
 
+    /** Which sign texts are told with behind their end, ahead of being cut there: it must not matter. */
+    static void tails(char sign) {
+        tail = sign;
+    }
+
     /** THE TEXT is this one afterwards, whatever it was. */
     static void text(SubjectNet net, String text) {
         net.end(0);
-        for (int i = 0; i < text.length(); i += 4) {
+        for (int i = 0; i < text.length() + 1 && i < 80; i += 4) {
             int v = 0;
             for (int k = 0; k < 4; k++) {
-                v = v << 8 | (i + k < text.length() ? text.charAt(i + k) : 0);
+                v = v << 8 | (i + k < text.length() ? text.charAt(i + k) : tail);
             }
             net.sign(v);
         }
