@@ -446,6 +446,14 @@ public final class Promises {
         Check.due("way of 24", line.way(23, 0), 24);
         Check.due("way of 24, first", line.row(0), 23);
         Check.due("way of 24, last", line.row(23), 0);
+        Check.due("depth at the end of 24", line.depth(0), 23);
+        Check.dueRow("depth at the end of 24", line, 0);
+        Check.due("chains of a line of 24", line.chains(), 1);
+        Check.dueRow("chains of a line of 24", line, 24);
+        line.unlinks(23, 22);
+        line.links(0, 23);
+        Check.due("way to term 23", line.way(1, 23), 3);
+        Check.dueRow("way to term 23", line, 1, 0, 23);
     }
 
     private static void p16Ways() {
@@ -750,6 +758,11 @@ public final class Promises {
         Check.due("search: term 0 is below", Check.search(net, "d*-d"), 3);
         Check.dueRow("search: term 0 is below", net, 2, 5, 8);
         net.unposts(8, 0);
+        net.keep(0);
+        net.goes(0, 0);
+        Check.due("search: term 0 is not there", Check.search(net, "d"), 2);
+        Check.dueRow("search: term 0 is not there", net, 1, 39);
+        net.again(0);
         net.unlinks(3, 0);
         Check.due("search: long", Check.search(net, "a+a+a+a+a+a+a+a+a+a+a+a+a+a+a+a+a+a+a+a"
             + "+a+a+a+a+a+a+a+a+a+a+a+a+a+a+a+a+a+a+d*"), 3);
@@ -927,6 +940,8 @@ public final class Promises {
         Check.due("day: undone as one once more, terms", net.count(0), 5);
         Check.due("day: 16 acts", Check.day(net, "p0000p0100p0200p0300p0400p0500p0600p0700"
             + "p0800p0900p1000p1100p1200p1300p1400p1500"), 16);
+        Check.due("day: 80 acts", Check.day(net, "t".repeat(80)), 0);
+        Check.dueRow("day: 80 acts", net, 1, 1);
         Check.due("day: heirs", Check.day(net, "u0001l0001l0102g011"), 4);
         Check.due("day: heirs are linked", net.kin(0, 0), 4);
     }
