@@ -574,8 +574,12 @@ public final class SubjectNet {
             return whole ? name : 0;
         }
 
+        /** "Any many" are none, too: an empty text is LINKS. */
         boolean readLinks(Net net) {
             start();
+            if (size == 0) {
+                return true;
+            }
             for (int i = 0; i < SIGNS; i++) {
                 int x = readTerm(net);
                 if (x < 0 || !passes('>')) {

@@ -27,6 +27,7 @@ public final class Promises {
         p8TellsTheFirstRing();
         p9Unlinks();
         p10Net();
+        p10NetOfAnEmptyText();
         p10WrongTexts();
         p11Place();
         p12At();
@@ -331,11 +332,35 @@ public final class Promises {
         Check.dueRow("net: a ring at once tells 1 alone", net, 1);
     }
 
+    private static void p10NetOfAnEmptyText() {
+        SubjectNet empty = new SubjectNet();
+        Check.due("net: empty, on a new object", empty.net(), 0);
+        Check.dueRow("net: empty, on a new object", empty, 0);
+        Check.due("net: empty, nothing to undo", empty.count(5), 0);
+        Check.due("net: empty, undo() is refused", empty.undo(), -1);
+        SubjectNet net = Check.terms(3);
+        net.links(2, 0);
+        net.tops();
+        Check.due("net: empty, with terms", Check.net(net, ""), 0);
+        Check.dueRow("net: empty, with terms", net, 0);
+        Check.due("net: empty, links stay", net.count(2), 1);
+        Check.due("net: empty, can't be undone", net.count(5), 4);
+        Check.dueOrder("net: empty, order stays", net, 2, 1, 0);
+        Check.due("net: two links", Check.net(net, "c>b,b>a"), 2);
+        Check.due("net: empty, the links told before are not told again", Check.net(net, ""), 0);
+        net.unlinks(1, 0);
+        Check.due("net: emptied by the call before", net.net(), 0);
+        Check.due("net: emptied by the call before, links", net.count(2), 2);
+        Check.due("net: a wrong text", Check.net(net, "a>"), -3);
+        Check.due("net: emptied by a wrong text", net.net(), 0);
+        Check.dueRow("net: emptied by a wrong text", net, 0);
+    }
+
     private static void p10WrongTexts() {
         SubjectNet net = Check.terms(3);
         Check.label(net, "bc", 1);
         net.tops();
-        String[] texts = {"", ">", "a", "a>", "ax>b", "x>b", "a>x", "a>bx", "a>b,", "a>b,>", "a>b;c>a", "a>b>c",
+        String[] texts = {",", ">", "a", "a>", "ax>b", "x>b", "a>x", "a>bx", "a>b,", "a>b,>", "a>b;c>a", "a>b>c",
             "a>b,c", "a>b,c>x", "a>bcd", "a >b", "a>b,a>c ", "A>b", "a>bc", "zzz>a", "a,b"};
         int[] signs = {0, 0, 1, 2, 0, 0, 2, 2, 4, 4, 3, 3, 5, 6, 4, 1, 7, 0, -2, 0, 1};
         for (int i = 0; i < texts.length; i++) {

@@ -472,7 +472,7 @@ final class Model {
         String t = take();
         List<int[]> links = new ArrayList<>();
         int p = 0;
-        while (true) {
+        while (!t.isEmpty()) {
             int[] link = new int[2];
             for (int side = 0; side < 2; side++) {
                 String l = labelAt(t, p);
