@@ -56,6 +56,7 @@ public final class Promises {
         p32Day();
         p32WrongTexts();
         p33Undo();
+        p33UndoOfTheLatestOfMany();
         p33UndoOfEachKind();
         p33WhatIsNotUndone();
         p34Years();
@@ -1029,6 +1030,28 @@ public final class Promises {
         big.undo();
         Check.due("undo net as one", big.undo(), 3);
         Check.due("undo net as one: links", big.count(2), 0);
+    }
+
+    /** Many more changes than are kept: each of the latest 8 must still be its own. */
+    private static void p33UndoOfTheLatestOfMany() {
+        SubjectNet net = Check.terms(1);
+        int has = 0;
+        for (int round = 0; round < 3; round++) {
+            for (int i = 0; i < 13; i++) {
+                Check.due("undo of many: posts", net.posts(has, 0), has + 1);
+                Check.due("undo of many: refused in between", net.posts(has, 0), -2);
+                has++;
+            }
+            for (int left = 7; left >= 0; left--) {
+                has--;
+                Check.due("undo of many, round " + round, net.undo(), left);
+                Check.due("undo of many, round " + round + ": postings", net.count(4), has);
+                Check.due("undo of many, round " + round + ": the item", net.posted(has), 0);
+                Check.due("undo of many, round " + round + ": the one before", net.posted(has - 1), 1);
+            }
+            Check.due("undo of many, round " + round + ": none left", net.undo(), -1);
+            Check.due("undo of many, round " + round + ": none left, postings", net.count(4), has);
+        }
     }
 
     /** Each kind of change alone behind a question that is not undone, a refused one, and an undone one. */
