@@ -12,6 +12,8 @@ public final class AgainstModel {
     private final SubjectNet net = new SubjectNet();
     private final Model model = new Model();
     private final int mostTerms;
+    /** Runs of this kind begin with 24 TERMS, of which those with the greatest numbers stay, and draw those. */
+    private final boolean high;
     private int calls = 0;
 
     private AgainstModel(int run) {
@@ -19,6 +21,7 @@ public final class AgainstModel {
         random = new Random(run);
         int[] sizes = {3, 5, 7, 9, 12, 24};
         mostTerms = sizes[run % sizes.length];
+        high = run / sizes.length % 3 == 2;
     }
 
     public static void main(String[] args) {
@@ -29,6 +32,9 @@ public final class AgainstModel {
     }
 
     private void go() {
+        if (high) {
+            fillUp();
+        }
         while (calls < CALLS - 150) {
             if (random.nextInt(40) == 0) {
                 compareAll();
@@ -37,6 +43,24 @@ public final class AgainstModel {
             }
         }
         compareAll();
+    }
+
+    /** To 24 TERMS and, in every other run, 40 LABELS; then the TERMS with the least numbers go. */
+    private void fillUp() {
+        for (int t = 0; t < 24; t++) {
+            tell(String.valueOf((char) ('a' + t)));
+            same("term()", m -> m ? model.term() : net.term());
+        }
+        int more = random.nextBoolean() ? 16 : random.nextInt(16);
+        for (int i = 0; i < more; i++) {
+            int t = drawnTerm();
+            tell("" + (char) ('a' + i) + 'a');
+            same("label(" + t + ")", m -> m ? model.label(t) : net.label(t));
+        }
+        for (int t = 0; t < 24 - mostTerms; t++) {
+            int k = t;
+            same("goes(" + k + ", 0)", m -> m ? model.goes(k, 0) : net.goes(k, 0));
+        }
     }
 
     // ---- what is asked
@@ -81,10 +105,14 @@ public final class AgainstModel {
             int k = what;
             same("count(" + k + ")", m -> m ? model.count(k) : net.count(k));
         }
-        for (int t = 0; t < model.count(0) + 1; t++) {
-            int k = t;
-            same("at(" + k + ")", m -> m ? model.at(k) : net.at(k));
-            same("kin(" + k + ", 0)", m -> m ? model.kin(k, 0) : net.kin(k, 0));
+        for (int p = 0; p < model.count(0) + 1; p++) {
+            int k = p;
+            int t = (int) same("at(" + k + ")", m -> m ? model.at(k) : net.at(k));
+            same("kin(" + t + ", 0)", m -> m ? model.kin(t, 0) : net.kin(t, 0));
+        }
+        for (int i = 0; i < 4; i++) {
+            int item = anyItem();
+            same("posted(" + item + ")", m -> m ? model.posted(item) : net.posted(item));
         }
         int t = anyTerm();
         same("labels(" + t + ")", m -> m ? model.labels(t) : net.labels(t));
@@ -98,7 +126,12 @@ public final class AgainstModel {
             int[] odd = {-1, 24, 25, 31, 32, 33, -32, Integer.MAX_VALUE, Integer.MIN_VALUE};
             return odd[random.nextInt(odd.length)];
         }
-        return random.nextInt(random.nextInt(12) == 0 ? 24 : mostTerms);
+        return random.nextInt(12) == 0 ? random.nextInt(24) : drawnTerm();
+    }
+
+    private int drawnTerm() {
+        int t = random.nextInt(mostTerms);
+        return high ? 23 - t : t;
     }
 
     private int anyItem() {
@@ -163,7 +196,7 @@ public final class AgainstModel {
     }
 
     private String two() {
-        int n = random.nextInt(20) == 0 ? random.nextInt(100) : random.nextInt(mostTerms);
+        int n = random.nextInt(20) == 0 ? random.nextInt(100) : drawnTerm();
         return "" + n / 10 + n % 10;
     }
 

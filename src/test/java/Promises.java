@@ -663,21 +663,25 @@ public final class Promises {
         Check.due("chains: over several changes", comb.chains(), 4);
     }
 
-    /** The fewest CHAINS are as many as the most TERMS of which none is below another: apart() tells those. */
+    /**
+     * The fewest CHAINS are as many as the most TERMS of which none is below another: apart() tells those. Once with
+     * the least numbers, once with the greatest ones and all others apart.
+     */
     private static void p23ChainsOfManyShapes() {
-        for (int shape = 0; shape < 25; shape++) {
-            SubjectNet net = Check.terms(7);
+        for (int shape = 0; shape < 60; shape++) {
+            int first = shape % 2 == 0 ? 0 : 17;
+            SubjectNet net = Check.terms(first + 7);
             int[] drawn = draws(1000 + shape, 24);
             for (int i = 0; i < 24; i += 2) {
-                net.links(drawn[i] % 7, drawn[i + 1] % 7);
+                net.links(first + drawn[i] % 7, first + drawn[i + 1] % 7);
             }
             int most = 0;
             for (int set = 0; set < 128; set++) {
-                if (net.apart(set) == 1) {
+                if (net.apart(set << first) == 1) {
                     most = Math.max(most, Integer.bitCount(set));
                 }
             }
-            Check.due("chains of shape " + shape, net.chains(), most);
+            Check.due("chains of shape " + shape, net.chains(), first + most);
         }
     }
 

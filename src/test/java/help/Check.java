@@ -13,7 +13,7 @@ final class Check {
         asked++;
         if (got != want) {
             wrong++;
-            System.out.println(what + " answered " + got + ", due is " + want);
+            System.out.println(Document.quoted(what) + " answered " + got + ", due is " + want);
         }
     }
 
@@ -31,7 +31,7 @@ final class Check {
         due(what + ": row(-1)", throwsNoSuch(net, -1), true);
     }
 
-    private static long number(SubjectNet net, int i) {
+    static long number(SubjectNet net, int i) {
         try {
             return net.row(i);
         } catch (NoSuchElementException e) {
