@@ -19,17 +19,27 @@ final class Document {
             + "|\\bchange nothing|\\bone may be|\\bas ints|\\bof 8\\b|\\banother what");
     private static final List<List<String>> QUOTES = new ArrayList<>();
     private static String current = "";
+    private static int askedAhead = 0;
 
     private Document() {
     }
 
     /** The answers asked from now on are due by these words of a section. */
     static void says(int section, String words) {
+        somethingWasAsked();
         while (QUOTES.size() < SECTIONS) {
             QUOTES.add(new ArrayList<>());
         }
         QUOTES.get(section).add(words);
         current = (section == 0 ? "Terms" : "promise " + section) + ", \"" + words + "\": ";
+    }
+
+    /** A quote behind which nothing is asked stands for nothing. */
+    private static void somethingWasAsked() {
+        if (!current.isEmpty()) {
+            Check.due("answers asked", Check.asked() > askedAhead, true);
+        }
+        askedAhead = Check.asked();
     }
 
     static String quoted(String what) {
@@ -38,6 +48,7 @@ final class Document {
 
     /** That the sections from .. to are quoted rightly, and that no boundary case of theirs is left out. */
     static void check(Path doc, int from, int to) throws IOException {
+        somethingWasAsked();
         current = "";
         String text = Files.readString(doc).replaceAll("\\s+", " ");
         for (int section = from; section <= to; section++) {
@@ -46,8 +57,8 @@ final class Document {
             quotes.sort((a, b) -> b.length() - a.length());
             for (String words : quotes) {
                 Check.due("section " + section + " says \"" + words + "\"",
-                    sectionOf(text, section).contains(words), true);
-                left = left.replace(words, " | ");
+                    !words.isEmpty() && sectionOf(text, section).contains(words), true);
+                left = words.isEmpty() ? left : left.replace(words, " | ");
             }
             Matcher boundary = BOUNDARY.matcher(left);
             Check.due("section " + section + " has a boundary case that no test quotes: " + left,
