@@ -1161,7 +1161,7 @@ public final class SubjectNet {
             int seen = 0;
             int waiting = 1;
             queue[0] = x;
-            for (int head = 0; head < waiting; head++) {
+            for (int head = 0; head < TERMS && head < waiting; head++) {
                 int s = queue[head];
                 int open = net.below(s) & ~(1 << s) & ~seen;
                 seen |= open;

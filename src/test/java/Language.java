@@ -8,12 +8,17 @@ import java.nio.file.Path;
 import java.util.ArrayList;
 import java.util.Arrays;
 import java.util.List;
+import java.util.Map;
 import java.util.Set;
+import java.util.TreeMap;
 import java.util.TreeSet;
 import java.util.regex.Matcher;
 import java.util.regex.Pattern;
 
-/** The rules of LANGUAGE.md, as far as they can be seen from the outside; its argument is the source's path. */
+/**
+ * The document's face, and the rules of LANGUAGE.md, as far as they can be seen from the outside; arguments: the
+ * source, the document.
+ */
 public final class Language {
     private static final String[] FACE = {
         "int sign(int)", "boolean end(int)", "int term()", "int label(int)", "int named()", "int labels(int)",
@@ -33,20 +38,64 @@ public final class Language {
         "\\bfloat\\b", "\\bRandom\\b", "\\bThread\\b", "^import (?!java\\.util\\.NoSuchElementException;)",
         "^package\\b", "\\bstatic \\{", "throw new (?!NoSuchElementException\\(\")"};
 
+    private static final Pattern HEAD = Pattern.compile(
+        "^( {4}| {8})(?!(?:for|if|while|switch) )[a-zA-Z].*\\) ?(throws \\w+ )?\\{$");
+
     private Language() {
     }
 
     public static void main(String[] args) throws IOException {
         List<String> lines = Files.readAllLines(Path.of(args[0]));
+        String doc = Files.readString(Path.of(args[1]));
+        theDocumentsFace(lines, doc);
+        theHeadings(lines, doc);
         theFace();
         theClassesInside();
         barredWords(lines);
         shortMethods(lines);
+        depthOfCalls(lines);
         Check.finish("Language");
     }
 
     private static void fault(String what) {
         Check.due("rule broken: " + what, 1, 0);
+    }
+
+    /** Line by line as the document writes it, in its order, with the names of what is taken. */
+    private static void theDocumentsFace(List<String> lines, String doc) {
+        List<String> want = new ArrayList<>();
+        Matcher m = Pattern.compile("(?m)^ +(public .*);$").matcher(doc);
+        while (m.find()) {
+            want.add(m.group(1));
+        }
+        Check.due("lines of the document's face", want.size(), FACE.length + 2);
+        List<String> got = new ArrayList<>();
+        for (String line : lines) {
+            if (line.startsWith("    public ")) {
+                got.add(line.trim().replaceAll("( \\{|;)$", ""));
+            }
+        }
+        Check.due("the face is " + got + ", the document's " + want, got.equals(want), true);
+    }
+
+    /** "Ahead of the calls .. the interface says: .."; sign and end, ahead of which it says nothing, come first. */
+    private static void theHeadings(List<String> lines, String doc) {
+        Matcher m = Pattern.compile("(?m)^Ahead of the calls (.*) the interface says: (---- .*)\\.$").matcher(doc);
+        int headings = 0;
+        while (m.find()) {
+            headings++;
+            int start = lines.indexOf("    // " + m.group(2));
+            Check.due("the heading " + m.group(2) + " is there", start >= 0, true);
+            StringBuilder calls = new StringBuilder();
+            for (int i = start + 1; i < lines.size() && !lines.get(i).startsWith("    // ----"); i++) {
+                if (lines.get(i).startsWith("    public ")) {
+                    calls.append(calls.length() > 0 ? ", " : "").append(
+                        lines.get(i).replaceAll(".* (\\w+)\\(.*", "`$1`"));
+                }
+            }
+            Check.due("behind " + m.group(2) + ": " + calls, calls.toString().equals(m.group(1)), true);
+        }
+        Check.due("headings", headings, 5);
     }
 
     private static void theFace() {
@@ -98,10 +147,15 @@ public final class Language {
         }
     }
 
+    private static boolean isComment(String line) {
+        String text = line.trim();
+        return text.startsWith("*") || text.startsWith("/*") || text.startsWith("//");
+    }
+
     private static void barredWords(List<String> lines) {
         for (int i = 0; i < lines.size(); i++) {
             String line = lines.get(i).trim();
-            if (line.startsWith("*") || line.startsWith("/*") || line.startsWith("//")) {
+            if (isComment(line)) {
                 continue;
             }
             for (String barred : BARRED) {
@@ -114,9 +168,8 @@ public final class Language {
     }
 
     private static void shortMethods(List<String> lines) {
-        Pattern head = Pattern.compile("^( {4}| {8})[a-zA-Z].*\\) ?(throws \\w+ )?\\{$");
         for (int i = 0; i < lines.size(); i++) {
-            Matcher m = head.matcher(lines.get(i));
+            Matcher m = HEAD.matcher(lines.get(i));
             if (!m.matches()) {
                 continue;
             }
@@ -126,5 +179,37 @@ public final class Language {
             }
             Check.due("line " + (i + 1) + " begins a short method", end - i < 60, true);
         }
+    }
+
+    /** At most eight deep, and without recursion. Methods of one name in several classes count as one. */
+    private static void depthOfCalls(List<String> lines) {
+        Map<String, Set<String>> calls = new TreeMap<>();
+        String method = null;
+        for (String line : lines) {
+            if (HEAD.matcher(line).matches()) {
+                method = line.replaceAll("^ *([^(]* )?(\\w+)\\(.*", "$2");
+                calls.computeIfAbsent(method, name -> new TreeSet<>());
+            } else if (method != null && !isComment(line)) {
+                Matcher m = Pattern.compile("\\b(\\w+)\\(").matcher(line);
+                while (m.find()) {
+                    calls.get(method).add(m.group(1));
+                }
+            }
+        }
+        for (String name : calls.keySet()) {
+            int deep = depthOf(name, calls, 0);
+            Check.due(name + " goes at most eight calls deep: " + deep, deep <= 8, true);
+        }
+    }
+
+    private static int depthOf(String name, Map<String, Set<String>> calls, int open) {
+        int deepest = 0;
+        if (open > 20 || !calls.containsKey(name)) {
+            return open > 20 ? 1 : 0;
+        }
+        for (String called : calls.get(name)) {
+            deepest = Math.max(deepest, depthOf(called, calls, open + 1));
+        }
+        return deepest + 1;
     }
 }
